@@ -72,6 +72,9 @@ public final class Promise06ProveTest {
         Tools.due("the common divisor", Tools.chain(x, 0), "100 + 100*x0");
         Tools.due("multiplier(0)", x.multiplier(0), 1);
         Tools.due("quotient", Tools.quotient(x, 0), "1");
+        // The base of the first pass is itself divided in the second.
+        x = proved(PROVED, with(4, 1, "", "x0^3 + 1", "x0^2 - 1"));
+        Tools.due("the last divisor", Tools.chain(x, 0), "1 + 1*x0");
         // A polynomial that falls into a lower class waits there for that class.
         x = proved(PROVED, with(4, 3, "", "x2 - x1", "x2 - x0", "x1^2 - 1"));
         Tools.due("class 2", Tools.chain(x, 2), "100*x1 + 1*x2");

@@ -76,6 +76,24 @@ public final class Promise12CheckTest {
         }
         leftSide(WuProver.CHECK_OK, initial.toString(), "x2 + x1");
         leftSide(WuProver.CHECK_TOO_BIG, initial.toString(), "x1^2*x2 + x1*x2 + x2");
+        passingLeftSide();
+    }
+
+    private static void passingLeftSide() {
+        // Modulo 2, times 1 + x0 the conclusion has 18 terms, times (1 + x0)^2 = 1 + x0^2 it has four;
+        // the right side is never oversized.
+        WuProver x = new WuProver(0, 3);
+        Tools.enter(x, 0, "x2 + x0*x2");
+        Tools.enter(x, 1, "x1 + x0*x1");
+        Tools.enter(x, 8, "x2 + x0^2*x2 + x0^4*x2 + x0^6*x2 + x0^8*x2 + x1 + x0^2*x1 + x0^4*x1 + x0^6*x1");
+        Tools.due("prove()", x.prove(), WuProver.STATUS_PROVED);
+        Tools.due("multiplier(2)", x.multiplier(2), 1);
+        Tools.due("multiplier(1)", x.multiplier(1), 1);
+        unchanged(x, WuProver.CHECK_TOO_BIG);
+        // One term less: 16 terms, then four.
+        x.addTerm(8, 1, 8 + 256);
+        Tools.due("prove()", x.prove(), WuProver.STATUS_PROVED);
+        unchanged(x, WuProver.CHECK_OK);
     }
 
     private static void leftSide(int want, String hypothesis, String conclusion) {
