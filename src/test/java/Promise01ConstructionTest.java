@@ -1,7 +1,5 @@
 /** Promise 1: the constructor clamps its arguments, and a fresh object is empty. */
 public final class Promise01ConstructionTest {
-    private static final int[] PRIMES = {2, 3, 5, 7, 101, 1009, 10007, 32749};
-
     public static void main(String[] args) {
         int[] indices = {Integer.MIN_VALUE, -2, -1, 0, 1, 2, 3, 4, 5, 6, 7, 8, 9, 100, Integer.MAX_VALUE};
         int[] counts = {Integer.MIN_VALUE, -1, 0, 1, 2, 3, 4, 5, 6, 7, 8, 1000, Integer.MAX_VALUE};
@@ -19,7 +17,7 @@ public final class Promise01ConstructionTest {
         WuProver x = new WuProver(index, count);
         String at = "new WuProver(" + index + ", " + count + ")";
         int vars = Math.max(1, Math.min(6, count));
-        Tools.due(at + " prime()", x.prime(), PRIMES[Math.max(0, Math.min(7, index))]);
+        Tools.due(at + " prime()", x.prime(), Tools.PRIMES[Math.max(0, Math.min(7, index))]);
         Tools.due(at + " varCount()", x.varCount(), vars);
         Tools.due(at + " status()", x.status(), WuProver.STATUS_IDLE);
         Tools.due(at + " chainSize()", x.chainSize(), 0);

@@ -1,11 +1,9 @@
 /** Promise 2: prime() answers the chosen prime, all arithmetic is modulo it, and nothing changes. */
 public final class Promise02PrimeTest {
-    private static final int[] PRIMES = {2, 3, 5, 7, 101, 1009, 10007, 32749};
-
     public static void main(String[] args) {
         for (int index = 0; index < 8; index++) {
             WuProver x = new WuProver(index, 2);
-            int p = PRIMES[index];
+            int p = Tools.PRIMES[index];
             Tools.due("prime() at " + index, x.prime(), p);
             Tools.due("p is zero", x.addTerm(0, p, 1), 0);
             Tools.due("p - 1 is not", x.addTerm(0, p - 1, 1), 1);

@@ -31,15 +31,14 @@ public final class Promise04AddTermTest {
     }
 
     private static void residues() {
-        int[] primes = {2, 3, 5, 7, 101, 1009, 10007, 32749};
         int[] coefs = {Integer.MIN_VALUE, Integer.MIN_VALUE + 1, -2000000000, -32750, -32749, -32748, -102, -101, -100,
             -8, -7, -6, -3, -2, -1, 0, 1, 2, 3, 6, 7, 8, 100, 101, 102, 32748, 32749, 32750, 2000000000,
             Integer.MAX_VALUE - 1, Integer.MAX_VALUE};
         for (int index = 0; index < 8; index++) {
             for (int coef : coefs) {
                 WuProver x = new WuProver(index, 1);
-                long residue = Math.floorMod((long) coef, (long) primes[index]);
-                String call = "addTerm(3, " + coef + ", 4) modulo " + primes[index];
+                long residue = Math.floorMod((long) coef, (long) Tools.PRIMES[index]);
+                String call = "addTerm(3, " + coef + ", 4) modulo " + Tools.PRIMES[index];
                 Tools.due(call, x.addTerm(3, coef, 4), residue == 0 ? 0 : 1);
                 Tools.due(call + " termCoef", x.termCoef(0, 3, 0), residue == 0 ? -1 : residue);
             }
