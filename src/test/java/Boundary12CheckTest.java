@@ -24,6 +24,8 @@ public final class Boundary12CheckTest {
                 Boundary12CheckTest::tooBigChangesNothing);
         Tools.test("Else it answers CHECK_OK if L equals S", Boundary12CheckTest::equal);
         Tools.test("check() answers CHECK_OK or CHECK_TOO_BIG and never CHECK_BAD", Boundary12CheckTest::neverBad);
+        Tools.test("all as read through termCount, termCode, termCoef and multiplier",
+                Boundary12CheckTest::identityBeyondTheLimits);
         Tools.test("Whenever status() answers STATUS_PROVED, termCount(KIND_REMAINDER, 0) answers 0",
                 Boundary12CheckTest::nothingLeft);
         Tools.end();
@@ -34,6 +36,7 @@ public final class Boundary12CheckTest {
         String before = Tools.everything(x);
         Tools.due(before + " check()", x.check(), want);
         Tools.due("the state after check()", Tools.everything(x), before);
+        Tools.due(before + " the identity", Certificate.holds(x) ? 1 : 0, 1);
         return x;
     }
 
@@ -195,9 +198,24 @@ public final class Boundary12CheckTest {
             int status = x.prove();
             int check = x.check();
             boolean stands = status == PROVED || status == NOT_PROVED;
-            boolean fine = stands ? check == OK || check == TOO_BIG : check == NONE;
+            boolean fine = stands ? (check == OK || check == TOO_BIG) && Certificate.holds(x) : check == NONE;
             Tools.due(Tools.inputs(x) + " check() " + check, fine ? 1 : 0, 1);
         }
+    }
+
+    private static void identityBeyondTheLimits() {
+        // Where check() answers CHECK_TOO_BIG the identity holds as well: with x0^16 and with x0^30 on both sides,
+        checked(NOT_PROVED, OK, Tools.with(4, 2, "x1^7", "x0^2*x1 - 1"));
+        checked(NOT_PROVED, TOO_BIG, Tools.with(4, 2, "x1^8", "x0^2*x1 - 1"));
+        checked(PROVED, TOO_BIG, Tools.with(4, 2, "x0^15*x1", "x0^15*x1"));
+        // and with 16 * 16 terms on both sides.
+        StringBuilder conclusion = new StringBuilder();
+        StringBuilder divisor = new StringBuilder();
+        for (int e = 0; e < 16; e++) {
+            conclusion.append(" + ").append(e + 1).append("*x1^").append(e).append("*x2");
+            divisor.append(" + ").append(e + 2).append("*x0^").append(e).append("*x2");
+        }
+        checked(PROVED, TOO_BIG, Tools.with(7, 3, conclusion.toString(), divisor.toString()));
     }
 
     private static void nothingLeft() {

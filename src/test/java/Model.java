@@ -215,19 +215,6 @@ final class Model {
         }
     }
 
-    /** Whether the identity of promise 12 holds when no value is limited. */
-    boolean identityHolds() {
-        TreeMap<Long, Long> left = inputs.get(8);
-        TreeMap<Long, Long> right = remainder;
-        for (int v = vars - 1; v >= 0; v--) {
-            for (int i = 0; i < multipliers[v]; i++) {
-                left = times(initial(chain.get(v), v), left);
-            }
-            right = plus(right, times(quotients.get(v), chain.get(v)));
-        }
-        return left.equals(right);
-    }
-
     // ---- the arithmetic ----
 
     private void addInto(TreeMap<Long, Long> poly, long monomial, long coef) {
