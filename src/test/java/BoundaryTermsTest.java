@@ -5,7 +5,6 @@ public final class BoundaryTermsTest {
     private static final int OVERFLOW = WuProver.STATUS_OVERFLOW;
 
     public static void main(String[] args) {
-        Tools.test("Up to eight hypotheses H_0..H_7 and one conclusion G", BoundaryTermsTest::eightHypotheses);
         Tools.test("deg_v(P) is the greatest e_v over the terms of P, and -1 for the zero polynomial.",
                 BoundaryTermsTest::degrees);
         Tools.test("The coefficient of x_v^e in P is the polynomial made of the terms of P whose exponent of x_v is e",
@@ -27,20 +26,6 @@ public final class BoundaryTermsTest {
         Tools.test("Result: I^k * A = Q*B + R with deg_v(R) < m.", BoundaryTermsTest::result);
         Tools.test("Inputs are not touched by clearing.", BoundaryTermsTest::clearing);
         Tools.end();
-    }
-
-    private static void eightHypotheses() {
-        // x0 = 2 and x1 = 3 follow from two hypotheses each, x2 .. x5 from one: none of the eight can be left out.
-        String[] hypotheses = {"x0^2 - 2*x0", "x1^2 - 3*x1", "x2 - 4", "x3 - 5", "x4 - 6", "x5 - 7",
-            "x0^2 - 4", "x1^2 - 9"};
-        for (int without = -1; without < 8; without++) {
-            WuProver x = Tools.with(7, 6, "x0 + x1 + x2 + x3 + x4 + x5 - 27", hypotheses);
-            if (without >= 0) {
-                x.clearPoly(without);
-            }
-            Tools.proved(without < 0 ? PROVED : NOT_PROVED, x);
-            Tools.due("chainSize()", x.chainSize(), without >= 2 && without < 6 ? 5 : 6);
-        }
     }
 
     private static void degrees() {

@@ -10,6 +10,7 @@ public final class ModelTest {
     private static final int[] checks = new int[4];
     private static int longChains = 0;
     private static int rounds = 0;
+    private static int wideInitials = 0;
 
     private static int below(int bound) {
         seed = seed * 6364136223846793005L + 1442695040888963407L;
@@ -28,9 +29,11 @@ public final class ModelTest {
         Tools.due("enough checks are too big", checks[3] > 100 ? 1 : 0, 1);
         Tools.due("enough chains have three elements or more", longChains > 300 ? 1 : 0, 1);
         Tools.due("enough rounds are made", rounds > 1000 ? 1 : 0, 1);
+        Tools.due("enough initials have several terms", wideInitials > 500 ? 1 : 0, 1);
         System.out.println("statuses 1..4: " + statuses[1] + " " + statuses[2] + " " + statuses[3] + " " + statuses[4]
                 + "; checks 1..3: " + checks[1] + " " + checks[2] + " " + checks[3]
-                + "; long chains: " + longChains + "; rounds: " + rounds);
+                + "; long chains: " + longChains + "; rounds: " + rounds
+                + "; wide initials: " + wideInitials);
         Tools.end();
     }
 
@@ -43,12 +46,15 @@ public final class ModelTest {
         int mostExponent = 1 + below(below(3) == 0 ? 15 : 3);
         // Every other run starts from a chain, so that the reduction has much to do.
         boolean triangular = below(2) == 0;
+        // Every other run has the main variable in all terms, so that initials have several terms.
+        int mostMain = below(2) == 0 ? 1 + below(3) : 0;
         int hypotheses = triangular ? x.varCount() : 1 + below(8);
         for (int target = 0; target < hypotheses; target++) {
-            int last = triangular ? target : below(x.varCount());
-            fill(run, x, model, target, last, 1 + below(mostTerms), mostExponent);
+            int main = triangular ? target : below(x.varCount());
+            fill(run, x, model, target, main, 1 + below(mostTerms), mostExponent, mostMain);
         }
-        fill(run, x, model, 8, x.varCount() - 1, below(2 * mostTerms + 1), mostExponent + below(2));
+        int last = x.varCount() - 1;
+        fill(run, x, model, 8, last, below(2 * mostTerms + 1), mostExponent + below(2), mostMain + below(2));
         compareProof(run, x, model);
         for (int i = below(6); i > 0; i--) {
             change(run, x, model);
@@ -58,9 +64,12 @@ public final class ModelTest {
         }
     }
 
-    private static void fill(int run, WuProver x, Model model, int target, int last, int terms, int mostExponent) {
+    /** Adds terms in x_0..x_last; the first has x_last, the others have it up to the power mostMain. */
+    private static void fill(int run, WuProver x, Model model, int target, int last, int terms, int mostExponent,
+            int mostMain) {
         for (int i = 0; i < terms; i++) {
-            int code = i == 0 ? (1 + below(mostExponent > 15 ? 15 : mostExponent)) << (4 * last) : 0;
+            int most = mostMain > 0 ? mostMain : mostExponent > 15 ? 15 : mostExponent;
+            int code = (i == 0 ? 1 + below(most) : below(mostMain + 1)) << (4 * last);
             for (int v = 0; v < last; v++) {
                 int exponent = below(3) == 0 ? below(mostExponent + 1) : 0;
                 code += (exponent > 15 ? 15 : exponent) << (4 * v);
@@ -103,6 +112,14 @@ public final class ModelTest {
         longChains += x.chainSize() > 2 ? 1 : 0;
         for (int v = 0; v < x.varCount(); v++) {
             rounds += x.multiplier(v) > 0 ? x.multiplier(v) : 0;
+            wideInitials += x.multiplier(v) > 0 && isInitialWide(x, v) ? 1 : 0;
         }
+    }
+
+    /** Whether the initial of T_v has several terms: the last two terms have the same power of x_v. */
+    private static boolean isInitialWide(WuProver x, int v) {
+        int last = x.termCount(WuProver.KIND_CHAIN, v) - 1;
+        return last > 0 && x.termCode(WuProver.KIND_CHAIN, v, last) >> (4 * v)
+                == x.termCode(WuProver.KIND_CHAIN, v, last - 1) >> (4 * v);
     }
 }
